@@ -50,7 +50,6 @@ public final class FallingPatterns {
         machine = new Machine();
         buffer = new Buffer();
         draft = new int[SLOTS];
-        machine.rebuild(now.patterns);
     }
 
     // ---- patterns
@@ -312,8 +311,8 @@ public final class FallingPatterns {
         for (int index = 0; index < buffer.length; index++) {
             int code = at(buffer.codes, index);
             row = code == ';' ? EMPTY_ROW : Rows.behind(row, code - 'a');
-            if (buffer.endsPart(index) && !isInDraft(row)) {
-                int slot = emptySlotOfDraft();
+            if (buffer.endsPart(index) && draftSlotOf(row) == NONE) {
+                int slot = draftSlotOf(NO_PATTERN);
                 if (slot == NONE) {
                     return NONE;
                 }
@@ -324,18 +323,10 @@ public final class FallingPatterns {
         return added;
     }
 
-    private boolean isInDraft(int row) {
+    /** The lowest slot of the draft that holds the row, or NO_PATTERN if that is asked for. */
+    private int draftSlotOf(int row) {
         for (int slot = 0; slot < SLOTS; slot++) {
             if (at(draft, slot) == row) {
-                return true;
-            }
-        }
-        return false;
-    }
-
-    private int emptySlotOfDraft() {
-        for (int slot = 0; slot < SLOTS; slot++) {
-            if (at(draft, slot) == NO_PATTERN) {
                 return slot;
             }
         }
@@ -829,6 +820,9 @@ public final class FallingPatterns {
             shorter = new int[MOST_STATES];
             ends = new int[MOST_STATES];
             leads = new int[MOST_STATES * LETTERS];
+            put(rows, 0, EMPTY_ROW);
+            put(shorter, 0, NONE);
+            size = 1;
         }
 
         void rebuild(int[] patterns) {
