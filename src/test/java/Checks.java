@@ -6,8 +6,14 @@ final class Checks {
         long answer();
     }
 
+    private String title = "";
     private int looks;
     private int wrong;
+
+    /** What the looks from now on are for; it is told with each that is not as due. */
+    void about(String test) {
+        title = test + ": ";
+    }
 
     void due(String what, long got, long want) {
         looks++;
@@ -39,8 +45,12 @@ final class Checks {
     private void tell(String text) {
         wrong++;
         if (wrong <= 40) {
-            System.out.println(text);
+            System.out.println(title + text);
         }
+    }
+
+    int looks() {
+        return looks;
     }
 
     int wrong() {
