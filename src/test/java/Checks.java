@@ -6,13 +6,17 @@ final class Checks {
         long answer();
     }
 
+    private static final int MOST_TOLD = 5;
+
     private String title = "";
     private int looks;
     private int wrong;
+    private int told;
 
-    /** What the looks from now on are for; it is told with each that is not as due. */
+    /** What the looks from now on are for; the first few that are not as due are told with it. */
     void about(String test) {
         title = test + ": ";
+        told = 0;
     }
 
     void due(String what, long got, long want) {
@@ -44,7 +48,8 @@ final class Checks {
 
     private void tell(String text) {
         wrong++;
-        if (wrong <= 40) {
+        told++;
+        if (told <= MOST_TOLD) {
             System.out.println(title + text);
         }
     }

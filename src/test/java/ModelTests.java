@@ -1,7 +1,7 @@
-/** Long seeded runs of calls, each answer held against the model's. */
+/** Seeded runs of as many calls as an object is used for, each answer held against the model's. */
 public final class ModelTests {
 
-    private static final int RUNS = 200;
+    private static final int RUNS = 800;
     private static final int CALLS = 512;
     private static final String[] PARTS = {
         "a", "b", "c", "d", "aa", "ab", "ba", "aba", "abab", "abcd", "bcd", "cd", "aaaa",
@@ -15,6 +15,7 @@ public final class ModelTests {
     private FallingPatterns real;
     private Model model;
     private StringBuilder past;
+    private int calls;
 
     public static void main(String[] args) {
         ModelTests tests = new ModelTests();
@@ -35,34 +36,44 @@ public final class ModelTests {
         real = new FallingPatterns();
         model = new Model();
         past = new StringBuilder("run " + number + ":");
-        int calls = 0;
+        calls = 0;
         while (calls < CALLS && checks.wrong() == 0) {
-            calls += step(number % 3);
-            if (number < 20 || next(8) == 0) {
+            step(number % 3);
+            if (number % 10 == 0 || next(8) == 0) {
                 look();
             }
         }
-        lookAtAll();
     }
 
     /** Each kind of run has its own letters, so that some runs match often and some seldom. */
-    private int step(int kind) {
-        int choice = next(20);
-        if (choice < 5) {
-            return type(patternsText(kind)) + call("add");
-        }
-        if (choice < 9) {
-            return type(lettersText(kind)) + call("feedAll");
-        }
+    private void step(int kind) {
+        int choice = next(40);
         if (choice < 10) {
-            return type(ODD[next(ODD.length)]) + call("firstErrors") + call("add")
-                    + call("feedAll") + (next(2) == 0 ? call("clearBuffer") : 0);
+            type(patternsText(kind));
+            call("add");
+        } else if (choice < 18) {
+            type(lettersText(kind));
+            call("feedAll");
+        } else if (choice < 20) {
+            stepOfAnOddText();
+        } else if (choice < 26) {
+            call("feed");
+        } else if (choice < 27) {
+            lookAtAll();
+        } else {
+            String[] rest = {"remove", "rule", "begin", "undo", "undo", "remove", "rule"};
+            call(rest[next(rest.length)]);
         }
-        if (choice < 13) {
-            return call("feed");
+    }
+
+    private void stepOfAnOddText() {
+        type(ODD[next(ODD.length)]);
+        call("firstErrors");
+        call("add");
+        call("feedAll");
+        if (next(2) == 0) {
+            call("clearBuffer");
         }
-        String[] rest = {"remove", "rule", "begin", "undo", "undo", "remove", "rule", "looks"};
-        return call(rest[next(rest.length)]);
     }
 
     private String patternsText(int kind) {
@@ -94,20 +105,23 @@ public final class ModelTests {
         return text.toString();
     }
 
-    private int type(String text) {
+    private void type(String text) {
         past.append(" \"").append(text).append('"');
         for (int index = 0; index < text.length(); index++) {
             int code = text.charAt(index);
             hold("append", () -> real.append(code), () -> model.append(code));
         }
-        return text.length();
     }
 
     private void hold(String name, Checks.Call got, Checks.Call want) {
+        if (calls == CALLS) {
+            return;
+        }
+        calls++;
         checks.due(past + " " + name, Checks.outcome(got), Checks.outcome(want));
     }
 
-    private int call(String name) {
+    private void call(String name) {
         int number = next(12) - 2;
         int few = next(6) - 1;
         past.append(' ').append(name).append(' ').append(number).append('/').append(few);
@@ -137,13 +151,9 @@ public final class ModelTests {
             case "begin":
                 hold(name, () -> real.begin(), () -> model.begin());
                 break;
-            case "undo":
-                hold(name, () -> real.undo(), () -> model.undo());
-                break;
             default:
-                lookAtAll();
+                hold(name, () -> real.undo(), () -> model.undo());
         }
-        return 1;
     }
 
     private void look() {

@@ -171,7 +171,7 @@ abstract class Sentences {
         long on(FallingPatterns x);
     }
 
-    /** Has patterns, a rule, letters, counted matches, falls, and saved states, 2 below the most. */
+    /** Has patterns, a rule, letters, matches, falls, and as many saved as are 2 below the most. */
     static FallingPatterns busy() {
         FallingPatterns x = withRule(2, "ab;ba;bab;c");
         read(x, "d2bacabab");
@@ -216,7 +216,7 @@ abstract class Sentences {
     }
 
     /** Only letters that were read make the state of a pattern that is added later. */
-    private void dueLetters(String what, FallingPatterns x) {
+    final void dueLetters(String what, FallingPatterns x) {
         x.clearBuffer();
         add(x, "bacababa");
         checks.due(what + ": the latest 8 letters", lengthOfState(x), 8);
@@ -225,8 +225,7 @@ abstract class Sentences {
     /** The call throws, and changes nothing. */
     final void dueRefused(String what, String text, Class<? extends RuntimeException> thrown,
             Change call) {
-        dueUnchanged(what, text,
-                x -> throwing(what, thrown, () -> call.on(x)));
+        dueUnchanged(what, text, x -> throwing(what, thrown, () -> call.on(x)));
     }
 
     private long throwing(String what, Class<? extends RuntimeException> thrown, Checks.Call call) {

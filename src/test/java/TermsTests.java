@@ -173,6 +173,10 @@ public final class TermsTests extends Sentences {
         y.feed(3);
         y.feed(0);
         checks.due("to the longest of two", y.count(2), y.pattern(2, 3));
+        FallingPatterns z = behind("abc;cd;bcd", "abc");
+        checks.due("to an end of the state with the letter", z.ifFed(3, 0), z.pattern(2, 3));
+        z.feed(3);
+        checks.due("to an end of the state with the letter", z.count(2), z.pattern(2, 3));
     }
 
     @Sentence("the falls of this letter are how many times it falls back until the letter can be "
@@ -598,24 +602,18 @@ public final class TermsTests extends Sentences {
 
     @Sentence("all, also what is counted so far")
     void undoBringsBackWhatIsCounted() {
-        FallingPatterns x = withRule(1, "ab;b;cd");
-        read(x, "ab2cd");
-        String counts = counts(x);
-        String matches = slots(x, 1);
-        String places = slots(x, 2);
-        checks.due("counted", counts, "3 6 5 5 3 4 3 2 5 3");
-        checks.due("matches", matches, "1 1 1 0 0 0 0 0");
-        checks.due("places", places, "1 2 4 -1 -1 -1 -1 -1");
-        Checks.Call[] calls = {() -> x.remove(1), () -> add(x, "d"), x::begin, () -> x.rule(2),
-            () -> x.feed(0), () -> read(x, "abcdb3")};
-        for (Checks.Call call : calls) {
-            call.answer();
+        Change[] calls = {x -> x.remove(1), x -> add(x, "d"), x -> x.begin(), x -> x.rule(2),
+            x -> x.feed(0), x -> read(x, "abcdb3")};
+        for (int call = 0; call < calls.length; call++) {
+            FallingPatterns x = withRule(1, "ab;b;cd");
+            read(x, "ab2cd");
+            calls[call].on(x);
             x.undo();
-            checks.due("counted so far", counts(x), counts);
-            checks.due("matches so far", slots(x, 1), matches);
-            checks.due("places so far", slots(x, 2), places);
-            checks.due("the rule", x.setting(), 1);
-            checks.due("the patterns", words(x), "ab,b,cd,,,,,");
+            checks.due("counts so far, " + call, counts(x), "3 6 5 5 3 4 3 2 5 3");
+            checks.due("matches so far, " + call, slots(x, 1), "1 1 1 0 0 0 0 0");
+            checks.due("places so far, " + call, slots(x, 2), "1 2 4 -1 -1 -1 -1 -1");
+            checks.due("the rule, " + call, x.setting(), 1);
+            checks.due("the patterns, " + call, words(x), "ab,b,cd,,,,,");
         }
     }
 
@@ -746,17 +744,32 @@ public final class TermsTests extends Sentences {
     }
 
     @Sentence("A call that throws an exception changes nothing.")
-    void aCallThatThrowsInTheEndChangesNothing() {
-        FallingPatterns x = type(new FallingPatterns(), "ab");
-        long before = x.digest();
+    void anUndoThatThrowsChangesNothing() {
+        FallingPatterns x = type(busyWithNoneSaved(), "ab");
         checks.dueThrow("undo of none", STATE, x::undo);
-        checks.due("undo of none", x.digest(), before);
-        FallingPatterns far = farBehind("a;aa", 9999);
-        type(far, "b2");
-        FallingPatterns twin = type(farBehind("a;aa", 9999), "b2");
-        checks.dueThrow("feed of too many", STATE, () -> far.feed(1));
-        checks.dueThrow("feedAll of too many", STATE, far::feedAll);
-        dueAlike("too many letters", far, twin);
+        dueAlike("undo of none", x, type(busyWithNoneSaved(), "ab"));
+        FallingPatterns letters = busyWithNoneSaved();
+        checks.dueThrow("undo of none", STATE, letters::undo);
+        dueLetters("undo of none", letters);
+    }
+
+    private static FallingPatterns busyWithNoneSaved() {
+        FallingPatterns x = busy();
+        for (int time = 0; time < 6; time++) {
+            x.rule(0);
+        }
+        for (int time = 0; time < 6; time++) {
+            x.undo();
+        }
+        return x;
+    }
+
+    @Sentence("A call that throws an exception changes nothing.")
+    void aCallThatThrowsForTooManyLettersChangesNothing() {
+        FallingPatterns x = type(farBehind("a;aa", 9999), "b2");
+        checks.dueThrow("feed of too many", STATE, () -> x.feed(1));
+        checks.dueThrow("feedAll of too many", STATE, x::feedAll);
+        dueAlike("too many letters", x, type(farBehind("a;aa", 9999), "b2"));
     }
 
     @Sentence("If several exceptions apply, the one that is named first in the throws clause is "
