@@ -32,6 +32,8 @@ public final class LanguageTests {
         "\\bDouble\\b", "\\bSystem\\b", "\\bThread\\b", "\\bequals\\b", "\\bhashCode\\b",
         "\\btoString\\b", "Exact\\b", "\\bObject\\b", "\\[\\]\\s*\\[", "\\bString\\b",
         "\\bArrays\\b", "\\binstanceof\\b"};
+    private static final Pattern METHOD =
+            Pattern.compile("( {4}| {8})(?! )[\\w\\[\\] ]+\\([\\w\\[\\], ]*\\).*(?<!;)");
 
     private final Checks checks = new Checks();
 
@@ -39,7 +41,9 @@ public final class LanguageTests {
         LanguageTests tests = new LanguageTests();
         tests.face();
         tests.insideClasses();
-        tests.text(Files.readString(Path.of(SOURCE)));
+        String source = Files.readString(Path.of(SOURCE));
+        tests.text(source);
+        tests.lengths(source.split("\n"));
         tests.checks.end("LanguageTests");
     }
 
@@ -83,16 +87,44 @@ public final class LanguageTests {
     }
 
     private void insideClasses() {
+        sizes(FallingPatterns.class);
         Class<?>[] inside = FallingPatterns.class.getDeclaredClasses();
         checks.due("at most 12 classes", inside.length < 12, true);
         for (Class<?> one : inside) {
             checks.due(one.getName(), Modifier.toString(one.getModifiers()),
                     "private static final");
+            sizes(one);
             for (Method method : one.getDeclaredMethods()) {
                 for (String call : FACE) {
                     checks.due("the name " + method.getName(),
                             method.getName().equals(call.split(" ")[1]), false);
                 }
+            }
+        }
+    }
+
+    private void sizes(Class<?> type) {
+        int fields = 0;
+        for (Field field : type.getDeclaredFields()) {
+            fields += Modifier.isStatic(field.getModifiers()) ? 0 : 1;
+        }
+        checks.due("at most 20 fields of " + type.getName(), fields <= 20, true);
+        for (Method method : type.getDeclaredMethods()) {
+            checks.due("at most 7 parameters of " + method.getName(),
+                    method.getParameterCount() <= 7, true);
+        }
+    }
+
+    /** A method ends where a brace stands as far in as its first line. */
+    private void lengths(String[] lines) {
+        for (int first = 0; first < lines.length; first++) {
+            Matcher head = METHOD.matcher(lines[first]);
+            if (head.matches()) {
+                int last = first;
+                while (last < lines.length && !lines[last].equals(head.group(1) + "}")) {
+                    last++;
+                }
+                checks.due("at most 60 lines: " + lines[first].trim(), last - first < 60, true);
             }
         }
     }
